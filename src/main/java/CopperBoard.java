@@ -1518,7 +1518,7 @@ public final class CopperBoard {
     private static final class Trial {
         private static final int MOST_CELLS = 24;
         private static final int MOST_WAYS = 3;
-        private static final int MOST_DEPTH = 60;
+        private static final int MOST_DEPTH = 40;
 
         final Grid grid;
         final Nets nets;
