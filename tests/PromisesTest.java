@@ -150,6 +150,14 @@ public final class PromisesTest {
         due("feed two", b.feed(0, 0, 257, 0, 0), -1);
         due("tape stays", b.count(2), 79);
         due("feed one", b.feed(0, 0, 0, 0, 1), 80);
+        for (int i = 0; i < 5; i++) {
+            int[] w = {257, 257, 257, 257, 257};
+            w[i] = word;
+            b.end(69);
+            due("twelve bytes are one too many", b.feed(w[0], w[1], w[2], w[3], w[4]), -1);
+            b.end(68);
+            due("twelve bytes", b.feed(w[0], w[1], w[2], w[3], w[4]), 80);
+        }
         promise = 3;
         b.end(0);
         feed(b, "s 5, v 3");
@@ -792,6 +800,27 @@ public final class PromisesTest {
         due("net 0 is laid", b.about(0, 0), 5);
         due("the old place is empty", b.copper(4, 0, 0), 0);
         due("all is joined", b.netlist(1), 0);
+        threeLate();
+    }
+
+    private static void threeLate() {
+        for (int many = 2; many <= 4; many++) {
+            CopperBoard b = board(5, 6, 2, "v 1", "v 1", "v 1", "v 1", "l 0");
+            for (int i = 0; i < many; i++) {
+                b.pin(i, 0, i + 1, 0);
+                b.pin(i, 4, i + 1, 0);
+            }
+            b.pin(4, 2, 0, 0);
+            b.pin(4, 3, 0, 0);
+            due("all can", b.order(), 0);
+            String before = picture(b, 0);
+            due(many + " must go", b.late(4, 1, 2, 5, 0), many < 4 ? (1 << many) - 1 : -1);
+            due("their vias", b.about(0, 1) + b.about(many - 1, 1), many < 4 ? 4 : 0);
+            due("its length", b.about(4, 0), many < 4 ? 5 : 1);
+            if (many == 4) {
+                same("as it was", picture(b, 0), before);
+            }
+        }
     }
 
     private static void whys() {
