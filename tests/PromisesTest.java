@@ -955,8 +955,7 @@ public final class PromisesTest {
         due("cells", b.plane(0, 0, 0), 21);
         due("one part", b.plane(0, 0, 1), 1);
         due("no island", b.plane(0, 0, 2), 0);
-        // The way round is row 4: 2, 4 alone, and its neighbours 1, 4 and 3, 4 are no necks (1, 3 and 3, 3 don't lead
-        // to 2, 4), so they are: each is the only one beside it.
+        // The way round leads by 1, 4 and 2, 4 and 3, 4: without any of these there are two parts.
         due("necks", b.plane(0, 0, 3), 3);
         b.keep(2, 4, 2, 4, 1);
         due("two parts", b.plane(0, 0, 1), 2);
