@@ -185,6 +185,13 @@ final class BoundsChecks extends Bounds {
             due("a wire on a trace", c.netlist(0), 1);
             c.rip(0);
             due("without the trace", c.netlist(0), 0);
+            CopperBoard d = board(4, 4, 1, "s 1", "s 1");
+            pins(d, 0, 0, 0, 3, 0);
+            d.wire(1, 0, 0, 0, 3, 0);
+            d.wire(0, 0, 2, 3, 2, 0);
+            due("two places, one pair", d.netlist(0), 1);
+            d.unwire(1);
+            due("without the wire", d.netlist(0), 0);
             String[] texts = {"s 1", "s 1", "s 1", "s 1", "s 1", "s 1", "s 1", "s 1"};
             CopperBoard all = board(2, 2, 1, texts);
             for (int net = 0; net < 8; net++) {
@@ -227,6 +234,12 @@ final class BoundsChecks extends Bounds {
             due("without them", b.netlist(1), 2);
             CopperBoard all = full();
             due("eight nets of four pins", all.netlist(1), 24);
+            CopperBoard whole = board(2, 2, 1, "s 1");
+            pins(whole, 0, 0, 0, 1, 0, 0, 1, 1, 1);
+            due("a pin in each cell", whole.netlist(1), 3);
+            due("no shorts", whole.netlist(0), 0);
+            whole.wire(0, 0, 0, 1, 0, 0);
+            due("two joined", whole.netlist(1), 2);
         });
     }
 
@@ -441,6 +454,15 @@ final class BoundsChecks extends Bounds {
             due("cells below alone", c.pair(0, 1, 2), 3);
             c.wire(1, 2, 0, 3, 0, 0);
             due("the pin's cell ahead of them", c.pair(0, 1, 2), 4);
+            CopperBoard d = board(5, 3, 3, "l 1", "s 1");
+            d.pin(0, 0, 1, 1);
+            d.pin(0, 4, 1, 1);
+            d.lay(0);
+            d.wire(1, 0, 1, 4, 1, 0);
+            d.wire(1, 0, 1, 4, 1, 2);
+            due("above and below are no neighbours", d.pair(0, 1, 2), 0);
+            d.wire(1, 0, 0, 0, 2, 1);
+            due("on its last cell and beside it", d.pair(0, 1, 2), 2);
         });
         test(37, "3 AWAY: how many STEPS of the first (its TRACES) turn from being so to not being so or back", () -> {
             CopperBoard b = board(9, 3, 1, "s 1", "s 1");
@@ -466,6 +488,23 @@ final class BoundsChecks extends Bounds {
             c.lay(0);
             c.pin(1, 1, 0, 0);
             due("a via is no step", c.pair(0, 1, 3), 0);
+            for (int net = 0; net < 2; net++) {
+                CopperBoard d = board(3, 9, 1, "s 1", "s 1");
+                pins(d, net, 1, 0, 1, 8);
+                d.lay(net);
+                pins(d, 1 - net, 0, 3, 2, 5, 0, 8);
+                due("southward", d.pair(net, 1 - net, 3), 5);
+                CopperBoard e = board(4, 2, 1, "s 1", "s 1");
+                pins(e, net, 0, 0, 3, 0);
+                e.lay(net);
+                pins(e, 1 - net, 0, 1);
+                due("from the first cell of all", e.pair(net, 1 - net, 3), 1);
+                CopperBoard f = board(2, 4, 1, "s 1", "s 1");
+                pins(f, net, 0, 0, 0, 3);
+                f.lay(net);
+                pins(f, 1 - net, 1, 0);
+                due("southward from the first cell of all", f.pair(net, 1 - net, 3), 1);
+            }
         });
     }
 

@@ -43,6 +43,13 @@ final class BoundsCutting extends Bounds {
             due("cut off by a trace", c.cut(0, 0), 3);
             c.rip(1);
             due("all but two pins", c.cut(0, 0), 10);
+            CopperBoard d = board(4, 3, 2, "s 1", "l 0");
+            pins(d, 0, 1, 0, 1, 2);
+            pins(d, 1, 0, 0, 3, 0);
+            due("all but the pins of net 0", d.cut(1, 0), 10);
+            d.lay(0);
+            due("cut off by the trace of net 0", d.cut(1, 0), 3);
+            due("by net 0", d.cut(1, 3), 1);
         });
         test(20, "REACHED are CELLS that moves through FREE ones lead to from its first PIN (that one, too)", () -> {
             CopperBoard b = board(3, 3, 2, "l 0", "s 1");
@@ -128,6 +135,11 @@ final class BoundsCutting extends Bounds {
             due("a keepout is none's doing", b.cut(0, 3), 2);
             b.keep(2, 1, 2, 2, 1);
             due("keepouts alone", b.cut(0, 3), 0);
+            CopperBoard f = board(5, 3, 3, "l 2", "s 1", "s 1");
+            f.pin(0, 0, 0, 2);
+            f.wire(1, 2, 0, 2, 2, 2);
+            f.wire(2, 0, 0, 4, 0, 1);
+            due("in the last layer", f.cut(0, 3), 2);
             CopperBoard c = board(6, 3, 1, "c 2", "s 1", "s 1");
             pins(c, 0, 0, 0);
             pins(c, 1, 3, 0);
@@ -173,6 +185,29 @@ final class BoundsCutting extends Bounds {
             for (int many = 0; many <= 7; many++) {
                 int m = many;
                 quiet(() -> crossed(m), many + " rows", b -> b.bars(7), (1 << many) - 1);
+            }
+            Supplier<CopperBoard> first = () -> {
+                String[] texts = {"s 1", "s 1", "s 1", "s 1", "s 1", "s 1", "s 1", "s 1"};
+                CopperBoard b = board(9, 9, 1, texts);
+                for (int net = 1; net < 8; net++) {
+                    pins(b, net, 0, net, 8, net);
+                    b.lay(net);
+                }
+                pins(b, 0, 4, 0, 4, 8);
+                return b;
+            };
+            quiet(first, "all but net 0", b -> b.bars(0), 254);
+            for (int last = 1; last < 8; last++) {
+                int l = last;
+                quiet(() -> {
+                    CopperBoard b = first.get();
+                    for (int net = 1; net < 8; net++) {
+                        if (net != l) {
+                            b.rip(net);
+                        }
+                    }
+                    return b;
+                }, "net " + l + " alone", b -> b.bars(0) * 256 + b.why(0), 257 << l);
             }
             Supplier<CopperBoard> one = () -> {
                 CopperBoard b = board(2, 2, 1, "s 1", "s 1");
@@ -335,7 +370,93 @@ final class BoundsCutting extends Bounds {
                     }
                     int between = kept == 0 ? 2 : kept == 3 ? 0 : 1;
                     due("clear " + clear + ", rows between " + between, b.together(3), between >= clear ? 1 : 0);
+                    CopperBoard c = board(4, 6, 1, "s 1", "c " + clear);
+                    pins(c, 0, 0, 0, 0, 5);
+                    pins(c, 1, 3, 0, 3, 5);
+                    if ((kept & 1) != 0) {
+                        keep(c, 0, 2, 0);
+                    }
+                    if ((kept & 2) != 0) {
+                        keep(c, 3, 2, 0);
+                    }
+                    due("clear " + clear + ", columns between " + between, c.together(3), between >= clear ? 1 : 0);
                 }
+            }
+        });
+        test(22, "whether rows of moves can be found for all", () -> {
+            // One step after the other through a row or a column, both ways, with another net beside.
+            int[][] ends = {{0, 0, 3, 0}, {3, 0, 0, 0}, {0, 2, 3, 2}, {3, 2, 0, 2}, {0, 0, 0, 2}, {0, 2, 0, 0}, {3, 0, 3, 2},
+                {3, 2, 3, 0}};
+            for (int net = 0; net < 2; net++) {
+                for (int[] e : ends) {
+                    CopperBoard b = board(4, 3, 1, "s 1", "s 1");
+                    pins(b, net, e);
+                    pins(b, 1 - net, 1, 1, 2, 1);
+                    due("from " + e[0] + ", " + e[1] + " to " + e[2] + ", " + e[3], b.together(3), 1);
+                }
+                for (int last = 1; last < 4; last++) {
+                    CopperBoard b = board(2, 2, 4, "s 1", "s 1");
+                    b.pin(net, 0, 0, 0);
+                    b.pin(net, 0, 0, last);
+                    b.pin(1 - net, 1, 0, last);
+                    b.pin(1 - net, 1, 0, 0);
+                    b.keep(0, 1, 1, 1, 15);
+                    due("down and up to " + last, b.together(3), 1);
+                    b.keep(0, 0, 1, 0, 1 << last - 1);
+                    due("kept on the way to " + last, b.together(3), last == 1 ? 1 : 0);
+                }
+                CopperBoard c = board(4, 2, 1, "s 1", "s 1");
+                pins(c, net, 0, 1, 1, 0);
+                keep(c, 1, 1, 0);
+                pins(c, 1 - net, 2, 0, 3, 0);
+                due("through the first cell of all", c.together(3), 1);
+                keep(c, 0, 0, 0);
+                due("without it", c.together(3), 0);
+            }
+            CopperBoard b = board(6, 4, 1, "s 1", "s 1", "s 1");
+            pins(b, 0, 0, 0, 5, 0);
+            pins(b, 1, 0, 1, 5, 3);
+            pins(b, 2, 0, 3, 5, 1);
+            due("the first and the second", b.together(3), 1);
+            due("the first and the third", b.together(5), 1);
+            due("the second and the third cross", b.together(6), 0);
+            due("all three", b.together(7), 0);
+            CopperBoard d = board(4, 3, 2, "c 1", "c 1");
+            pins(d, 0, 0, 0, 3, 0);
+            pins(d, 1, 0, 1, 3, 1);
+            due("pins side by side are free for their nets", d.together(3), 1);
+            CopperBoard e = board(4, 2, 1, "s 1");
+            pins(e, 0, 0, 0, 3, 0);
+            e.lay(0);
+            e.keep(1, 0, 1, 1, 1);
+            due("its trace on a keepout is gone", e.together(1), 0);
+        });
+        test(22, "other NETS as they lie", () -> {
+            for (int turned = 0; turned < 2; turned++) {
+                int t = turned;
+                CopperBoard b = board(3, 2, 1, "s 1");
+                pins(b, 0, t == 0 ? new int[] {2, 0, 0, 1} : new int[] {0, 1, 2, 0});
+                b.keep(1, 0, 1, 1, 1);
+                due("no way from the end of a row to the next", b.together(1), 0);
+                CopperBoard c = board(3, 2, 2, "s 1");
+                c.pin(0, 0, 1 - t, t);
+                c.pin(0, 0, t, 1 - t);
+                c.keep(0, 0, 2, 0, 1);
+                c.keep(0, 1, 2, 1, 2);
+                due("no way from the last row to the next layer", c.together(1), 0);
+                CopperBoard d = board(4, 3, 1, "c 1", "c 1");
+                pins(d, t, 3, 0, 3, 2);
+                pins(d, 1 - t, 0, 0, 0, 2);
+                d.keep(1, 0, 2, 2, 1);
+                due("the other side is not near", d.together(3), 1);
+                CopperBoard e = board(4, 3, 2, "c 1", "c 1");
+                e.pin(t, 0, 2, 0);
+                e.pin(t, 3, 2, 0);
+                e.pin(1 - t, 0, 0, 1);
+                e.pin(1 - t, 3, 0, 1);
+                e.keep(0, 0, 3, 1, 1);
+                e.keep(0, 1, 3, 2, 2);
+                due("the last row is not near the next layer's first", e.together(3), 1);
             }
         });
         test(22, "TOGETHER (1, 0) of NETS (bits, not 0).", () -> {
@@ -432,6 +553,13 @@ final class BoundsCutting extends Bounds {
             due("both there", c.copper(2, 2, 0), 3);
             due("to a keepout", c.late(0, 1, 1, 1, 0), 0);
             due("one pin more", c.pin(1, 2, 2, 0), 0);
+            CopperBoard e = board(4, 3, 1, "s 1", "s 1");
+            e.wire(0, 0, 0, 3, 0, 0);
+            e.wire(1, 1, 0, 1, 2, 0);
+            pins(e, 1, 1, 2);
+            pins(e, 0, 0, 0);
+            due("a net with a wire over another's", e.late(0, 0, 0, 1, 0), 0);
+            same("both wires stay", picture(e, 0), "1311/12../.2..");
             CopperBoard d = board(3, 3, 1, "s 1");
             pins(d, 0, 0, 0);
             due("a net of one pin", d.late(0, 0, 2, 2, 0), 0);
@@ -560,6 +688,16 @@ final class BoundsCutting extends Bounds {
                 return b;
             };
             quiet(hole, "a hole laid by hand is no via of a row", b -> b.why(0), -1);
+            refused(() -> {
+                CopperBoard b = board(3, 3, 2, "s 1", "s 1");
+                pins(b, 0, 0, 0, 2, 0);
+                b.hole(0, 0, 0, 0);
+                b.wire(1, 1, 0, 1, 2, 0);
+                pins(b, 1, 1, 2);
+                b.pin(1, 0, 2, 1);
+                b.lay(1);
+                return b;
+            }, "a hole, and a wire across", b -> b.why(0));
             Supplier<CopperBoard> wire = () -> {
                 CopperBoard b = hole.get();
                 b.wire(0, 0, 0, 0, 1, 0);
@@ -567,6 +705,19 @@ final class BoundsCutting extends Bounds {
                 return b;
             };
             quiet(wire, "joined with the first pin it helps", b -> b.why(0), 0);
+            for (int other = 1; other < 3; other++) {
+                int o = other;
+                quiet(() -> {
+                    CopperBoard b = board(4, 3, 2, "s 1", "s 1", "s 1");
+                    b.pin(0, 3, 1, 1);
+                    b.pin(0, 0, 1, 0);
+                    b.hole(0, 3, 1, 0);
+                    b.pin(o, 1, 0, 0);
+                    b.pin(o, 1, 2, 0);
+                    b.lay(o);
+                    return b;
+                }, "a hole at its first pin, net " + o + " across", b -> b.why(0) * 16 + b.bars(0), 16 << o);
+            }
             refused(() -> {
                 CopperBoard b = board(3, 3, 2, "s 1", "s 1");
                 pins(b, 0, 0, 0, 2, 0);

@@ -196,6 +196,27 @@ final class BoundsLaying extends Bounds {
             b = board(3, 3, 1, "s 1,b 9");
             pins(b, 0, 0, 0, 2, 0, 1, 2);
             due("each row begins anew", b.lay(0), 4);
+            b = board(3, 2, 1, "s 1,b 9");
+            pins(b, 0, 0, 0, 2, 1);
+            keep(b, 2, 0, 0);
+            due("one bend, not two", b.lay(0), 3 + 9);
+            same("west, west, north", picture(b, 0), "1../111");
+            b = board(3, 2, 2, "s 1,v 0,b 9");
+            pins(b, 0, 2, 1);
+            b.pin(0, 0, 0, 1);
+            b.keep(0, 0, 0, 1, 1);
+            b.keep(1, 1, 2, 1, 2);
+            keep(b, 1, 0, 0);
+            // East, east, below.. would bend behind the via: above and south is the second direction.
+            due("a via up between two directions", b.lay(0), 3 + 9);
+            b = board(3, 2, 2, "s 1,v 0,b 9");
+            b.pin(0, 2, 1, 1);
+            pins(b, 0, 0, 0);
+            b.keep(0, 1, 2, 1, 1);
+            keep(b, 1, 0, 1);
+            due("a via down between two directions", b.lay(0), 3 + 9);
+            same("east, east", picture(b, 0), "111/...");
+            same("below, south", picture(b, 1), "..1/..1");
         });
         test(14, "(a BEND's, 0 .. 99; 0)", () -> {
             CopperBoard b = board(3, 3, 1, "b 99");
@@ -245,6 +266,17 @@ final class BoundsLaying extends Bounds {
             due("three steps either way", b.lay(0), 3);
             same("west, west, north", picture(b, 0), "1../111");
             due("vias", b.about(0, 1), 0);
+            CopperBoard v = board(3, 3, 2, "s 2,v 4", "s 1");
+            pins(v, 0, 0, 0, 2, 0);
+            v.wire(1, 1, 0, 1, 1, 0);
+            // Six steps or two steps and two vias.
+            due("twelve either way", v.lay(0), 12);
+            due("four moves, though south is ahead of below", v.about(0, 1), 2);
+            CopperBoard w = board(4, 2, 2, "s 1,v 1");
+            pins(w, 0, 0, 0, 3, 0);
+            keep(w, 1, 0, 0);
+            due("five either way", w.lay(0), 5);
+            due("five moves either way: south is ahead", w.about(0, 1), 0);
             CopperBoard c = board(3, 3, 1, "s 1,b 2");
             pins(c, 0, 0, 1, 2, 1);
             keep(c, 1, 1, 0);
@@ -390,6 +422,16 @@ final class BoundsLaying extends Bounds {
                 return b;
             };
             refused(walled, "it can't", b -> b.cost(0, true));
+            Supplier<CopperBoard> crossed = () -> {
+                CopperBoard b = board(3, 3, 1, "s 1", "s 1");
+                pins(b, 0, 0, 1, 2, 1);
+                pins(b, 1, 1, 0, 1, 2);
+                b.lay(0);
+                return b;
+            };
+            refused(crossed, "the trace of net 0 bars", b -> b.cost(1, true));
+            refused(crossed, "the trace of net 0 bars", b -> b.lay(1));
+            quiet(crossed, "its own does not", b -> b.cost(0, true), 2);
             refused(walled, "it can't without vias", b -> b.cost(0, false));
         });
     }
@@ -544,6 +586,12 @@ final class BoundsLaying extends Bounds {
             due("cells", b.about(0, 2), 6);
             due("pins", b.about(0, 3), 2);
             due("rank", b.about(0, 4), 0);
+            due("the other one has none", b.about(1, 2) + b.about(1, 3), 0);
+            b.wire(1, 0, 0, 3, 0, 0);
+            b.pin(1, 3, 1, 0);
+            due("cells of the other one", b.about(1, 2), 5);
+            due("pins of the other one", b.about(1, 3), 1);
+            due("cells stay", b.about(0, 2), 6);
         });
         test(23, "NONE: no such ones.", () -> {
             int[][] bad = {{0, -1}, {0, 5}, {0, MIN}, {0, MAX}, {4, 0}, {-1, 0}, {8, 4}, {MIN, 0}, {MAX, 0}};

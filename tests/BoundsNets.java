@@ -316,6 +316,16 @@ final class BoundsNets extends Bounds {
             due("one from a trace", d.free(0, 1, 1, 0), 0);
             d.rip(1);
             due("its trace is gone, its pin is not", d.free(0, 1, 1, 0), 0);
+            CopperBoard e = board(4, 4, 1, "s 1", "c 1");
+            pins(e, 0, 0, 0, 3, 0);
+            due("ahead of the trace", e.free(1, 2, 0, 0) * 2 + e.free(1, 2, 1, 0), 0);
+            due("free", e.free(1, 1, 2, 0), 1);
+            keep(e, 1, 0, 0);
+            keep(e, 2, 0, 0);
+            e.lay(0);
+            same("a bow", picture(e, 0), "1..1/1111/..../....");
+            due("beside the trace of net 0", e.free(1, 1, 2, 0), 0);
+            due("two from it", e.free(1, 1, 3, 0), 1);
         });
         test(13, "Whether a CELL is FREE for a NET (1, 0).", () -> {
             quiet(Bounds::rich, "a cell of its wire", b -> b.free(2, 2, 2, 1), 1);
@@ -361,6 +371,17 @@ final class BoundsNets extends Bounds {
             clear("c 2", "c 0", 2);
             clear("c 1", "c 2", 2);
             clear("c 2", "c 1", 2);
+            CopperBoard b = board(9, 9, 1, "c 0", "c 1", "c 2");
+            b.pin(0, 4, 4, 0);
+            for (int turn = 0; turn < 2; turn++) {
+                due("of the second", b.free(1, 3, 4, 0) * 2 + b.free(1, 2, 4, 0), 1);
+                due("of the third", b.free(2, 2, 4, 0) * 2 + b.free(2, 1, 4, 0), 1);
+                due("of the first itself", b.free(0, 3, 4, 0), 1);
+            }
+            b.pin(2, 8, 8, 0);
+            due("the first beside the third", b.free(0, 6, 6, 0) * 2 + b.free(0, 5, 6, 0), 1);
+            due("the second beside the first", b.free(1, 5, 5, 0) * 2 + b.free(1, 6, 5, 0), 1);
+            due("the first beside the third again", b.free(0, 6, 6, 0) * 2 + b.free(0, 5, 6, 0), 1);
         });
     }
 

@@ -10,6 +10,7 @@ final class BoundsPressing extends Bounds {
         turnByTurn();
         bars();
         heats();
+        cooling();
         endings();
         beside();
         steady();
@@ -76,6 +77,10 @@ final class BoundsPressing extends Bounds {
             keep(c, 2, 1, 0);
             due("laid before", b.press(9, 1), c.press(9, 1));
             same("pictures", picture(b, 0), picture(c, 0));
+            CopperBoard e = dipping();
+            e.lay(1);
+            // If net 1's trace stayed, net 0 would give way in the first turn.
+            due("laid before", e.press(9, 1), 2);
             CopperBoard d = board(3, 3, 1, "s 1", "s 1");
             pins(d, 0, 0, 0, 2, 0);
             d.lay(0);
@@ -171,11 +176,74 @@ final class BoundsPressing extends Bounds {
                     due("via " + via + ", pressure " + pressure, crossing(via).press(20, pressure), first <= 20 ? first : -1);
                 }
             }
+            for (int via = 5; via <= 50; via += 5) {
+                for (int pressure = 1; pressure <= 12; pressure++) {
+                    // Five cells one clear away against two vias.
+                    int turn = 2;
+                    while (turn <= 20 && 5 * (pressure + turn - 1) <= 2 * via) {
+                        turn++;
+                    }
+                    due("net 0 gives way, via " + via + ", pressure " + pressure,
+                            beneath(via, true).press(20, pressure), turn <= 20 ? turn : -1);
+                    turn = 5 * pressure > 2 * via ? 1 : turn;
+                    due("net 1 gives way, via " + via + ", pressure " + pressure,
+                            beneath(via, false).press(20, pressure), turn <= 20 ? turn : -1);
+                }
+            }
+            for (int via = 3; via <= 60; via++) {
+                // Nine cells, that of the corner among them.
+                int turn = 2;
+                while (turn <= 20 && 9 * turn <= 2 * via) {
+                    turn++;
+                }
+                due("round the corner, via " + via, corner(via).press(20, 1), turn <= 20 ? turn : -1);
+            }
             CopperBoard b = crossing(5);
             due("heat", b.press(20, 4), 8);
             due("0 at first again", b.press(20, 4), 8);
             due("in a third call", b.press(8, 4), 8);
             due("one less is too few", b.press(7, 4), -1);
+        });
+    }
+
+    /** One net goes straight along row 1 or beneath it; the other one has to come up to row 2, one clear. */
+    private static CopperBoard beneath(int via, boolean first) {
+        CopperBoard b = first ? board(7, 5, 2, "v " + via, "l 0,c 1") : board(7, 5, 2, "l 0,c 1", "v " + via);
+        pins(b, first ? 0 : 1, 0, 1, 6, 1);
+        pins(b, first ? 1 : 0, 2, 4, 4, 4);
+        b.keep(0, 0, 6, 0, 1);
+        b.keep(0, 2, 1, 2, 1);
+        b.keep(5, 2, 6, 2, 1);
+        b.keep(3, 3, 3, 4, 1);
+        return b;
+    }
+
+    /** Net 0 goes up the first column and along the first row or beneath; net 1 goes the same way one cell further in. */
+    private static CopperBoard corner(int via) {
+        CopperBoard b = board(6, 6, 2, "v " + via, "l 0,c 1");
+        pins(b, 0, 5, 0, 0, 5);
+        pins(b, 1, 2, 3, 3, 2);
+        int[] kept = {2, 2, 3, 3, 2, 4, 4, 2, 2, 5};
+        for (int i = 0; i < kept.length; i += 2) {
+            keep(b, kept[i], kept[i + 1], 0);
+        }
+        return b;
+    }
+
+    private static void cooling() {
+        test(19, "at the end of a TURN the HEAT of each CELL (0 at first) with a TRACE that has one of another NET "
+                + "at most CLEAR away is 1 more", () -> {
+            CopperBoard b = board(7, 3, 2, "v 3", "v 5", "v 10", "l 0");
+            pins(b, 0, 0, 1, 2, 1);
+            pins(b, 1, 1, 0, 1, 2);
+            pins(b, 2, 4, 1, 6, 1);
+            pins(b, 3, 5, 0, 5, 2);
+            b.keep(3, 0, 3, 2, 3);
+            due("the other crossing takes long", b.press(20, 2), 20);
+            due("net 0 went below in turn 6", b.about(0, 1), 2);
+            // The heat of the cell stays at 5 from then on, else it would be more than two vias of net 1.
+            due("net 1 stays", b.about(1, 1), 0);
+            due("net 2 went below in turn 20", b.about(2, 1), 2);
         });
     }
 
@@ -284,6 +352,7 @@ final class BoundsPressing extends Bounds {
             }
             for (int what : new int[] {-1, 6, MIN, MAX}) {
                 refused(Bounds::rich, "beside(1, 1, " + what + ")", b -> b.beside(1, 1, what));
+                refused(() -> crossing(0), "beside(20, 20, " + what + ")", b -> b.beside(20, 20, what));
             }
         });
     }

@@ -130,6 +130,7 @@ final class BoundsRest extends Bounds {
             same("pins and traces stay", picture(b, 0), "1..1/...1/....");
             same("wires of others stay", picture(b, 1), "..../..../2222");
             due("delay", b.delay(0), 1);
+            due("delay of the other one", b.delay(1), 3);
             CopperBoard c = board(2, 2, 2, "s 1");
             c.hole(0, 0, 0, 0);
             due("a hole alone", c.unwire(0), true);

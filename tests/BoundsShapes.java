@@ -94,6 +94,30 @@ final class BoundsShapes extends Bounds {
             due("its own legs are near", d.stretch(0, 200), 8);
             same("above", picture(d, 0), ".11/111/1.1/1.1");
         });
+        test(24, "are FREE and without COPPER of its own", () -> {
+            CopperBoard b = board(3, 2, 1, "s 1", "s 1");
+            pins(b, 0, 0, 0, 1, 0);
+            b.lay(0);
+            due("to the first cell of all", b.stretch(0, 200), 3);
+            due("length", b.about(0, 0), 3);
+            due("delay", b.delay(0), 3);
+            due("cells", b.about(0, 2), 4);
+            CopperBoard c = board(4, 4, 1, "s 1", "s 1");
+            pins(c, 1, 0, 1, 3, 1);
+            pins(c, 0, 0, 2, 3, 2);
+            c.lay(0);
+            c.lay(1);
+            due("net 1 above net 0", c.stretch(1, 200), 7);
+            same("to the right twice", picture(c, 0), "2222/2222/1111/....");
+            due("net 0 below", c.stretch(0, 5), 5);
+            CopperBoard d = board(3, 4, 1, "s 1", "s 1");
+            pins(d, 1, 0, 3, 2, 3);
+            keep(d, 1, 3, 0);
+            keep(d, 1, 2, 0);
+            d.lay(1);
+            due("net 1's own legs are near", d.stretch(1, 200), 8);
+            same("above", picture(d, 0), ".22/222/2.2/2.2");
+        });
         test(24, "the new STEPS are not looked at", () -> {
             CopperBoard b = board(9, 9, 1, "s 1");
             pins(b, 0, 4, 4, 4, 5);
@@ -145,6 +169,16 @@ final class BoundsShapes extends Bounds {
             CopperBoard b = longOne();
             due("length", b.about(0, 0), 200);
             due("no more than 200", b.stretch(0, 200), 200);
+        });
+        test(24, "STRETCH to a LENGTH of so many at most", () -> {
+            CopperBoard b = board(2, 2, 1, "s 1", "s 1");
+            pins(b, 0, 0, 0, 1, 0);
+            b.lay(0);
+            due("the whole board", b.stretch(0, 200), 3);
+            due("no more cells", b.stretch(0, 200), 3);
+            due("span", b.span(0), 3);
+            due("none beside", b.pair(0, 1, 2), 0);
+            due("cells", b.about(0, 2), 4);
         });
         test(24, "along its TRACE from the second PIN on (up to where it ends)", () -> {
             CopperBoard b = board(6, 3, 1, "s 1");
@@ -322,6 +356,16 @@ final class BoundsShapes extends Bounds {
             b.pin(0, 5, 5, 3);
             plane(b, 0, 3, "73 1 0 0");
             plane(b, 0, 2, "81 0 1 0");
+            CopperBoard d = board(4, 3, 2, "s 1", "l 1");
+            pins(d, 0, 0, 1, 3, 1);
+            plane(d, 0, 0, "12 1 0 0");
+            d.lay(0);
+            plane(d, 1, 0, "8 0 2 0");
+            plane(d, 0, 0, "12 1 0 0");
+            d.keep(0, 0, 3, 2, 1);
+            plane(d, 0, 0, "4 1 0 0");
+            d.rip(0);
+            plane(d, 0, 0, "2 2 0 0");
             CopperBoard c = board(3, 3, 1, "s 1", "s 1");
             for (int y = 0; y < 3; y++) {
                 c.wire(1, 0, y, 2, y, 0);
@@ -427,6 +471,15 @@ final class BoundsShapes extends Bounds {
             c.pin(0, 0, 1, 0);
             c.keep(1, 1, 1, 1, 1);
             due("not the end of the row before", c.spokes(0, 0), 2);
+            CopperBoard d = board(4, 2, 2, "s 1", "s 1");
+            pins(d, 0, 0, 0, 3, 0);
+            d.lay(0);
+            keep(d, 1, 0, 0);
+            due("its trace on a keepout", d.spokes(0, 0), 2);
+            d.rip(0);
+            due("the keepout alone", d.spokes(0, 0), 1);
+            d.pin(1, 2, 1, 0);
+            due("net 1", d.spokes(1, 0), 3);
         });
         test(28, "NONE: no such one.", () -> {
             int[][] bad = {{0, 2}, {0, -1}, {0, 4}, {0, MIN}, {0, MAX}, {3, 0}, {4, 0}, {-1, 0}, {8, 0}, {MIN, 0}, {MAX, 0}};
@@ -461,6 +514,15 @@ final class BoundsShapes extends Bounds {
             CopperBoard c = board(2, 2, 1, "s 1", "s 1");
             c.pin(0, 0, 0, 0);
             due("one layer", c.back(0, 1, 0), 0);
+            CopperBoard d = board(4, 2, 2, "s 1", "s 1");
+            pins(d, 0, 0, 0, 3, 0);
+            d.wire(1, 0, 0, 3, 0, 1);
+            d.lay(0);
+            d.keep(0, 0, 3, 1, 1);
+            due("its trace on keepouts is in the plane", d.back(1, 0, 0), 0);
+            d.rip(0);
+            due("without it", d.back(1, 0, 0), 2);
+            due("the other way round", d.back(0, 1, 1), 0);
         });
         test(29, "RETURN of a NET by the PLANE of another one in a LAYER. NONE: no such ones, alike.", () -> {
             int[][] bad = {{0, 0, 0}, {3, 3, 1}, {4, 0, 0}, {0, 4, 0}, {-1, 0, 0}, {0, -1, 0}, {0, 1, 2}, {0, 1, -1},
