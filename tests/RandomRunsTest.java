@@ -63,7 +63,7 @@ public final class RandomRunsTest {
         int shape = run % 4;
         wide = shape == 0 ? 2 + below(3) : 2 + below(4);
         deep = shape == 0 ? 2 + below(2) : 2 + below(4);
-        layers = 1 + below(shape == 0 ? 2 : 3);
+        layers = 1 + below(shape == 0 ? 2 : 4);
         tight = run % 5 >= 2;
         if (tight) {
             wide = 3 + below(4);
@@ -136,7 +136,9 @@ public final class RandomRunsTest {
             text += ",c" + below(3);
         }
         if (below(4) == 0) {
-            text += ",l" + below(model.layers);
+            int first = below(model.layers);
+            int second = below(model.layers);
+            text += ",l" + first + (second == first ? "" : " " + second);
         }
         return text.isEmpty() ? "s1" : text.substring(1);
     }
