@@ -1,11 +1,11 @@
-import java.util.ArrayList;
-import java.util.List;
-import java.util.Set;
-import java.util.TreeSet;
+import java.util.Arrays;
 
 /** For each sentence that names a boundary case a test of its own; and each sentence of the document has one. */
 public final class BoundariesTest extends Bounds {
+    private static final int JOINING = 10;
+
     public static void main(String[] args) {
+        BoundsFace.all();
         BoundsTexts.all();
         BoundsNets.all();
         BoundsLaying.all();
@@ -14,7 +14,7 @@ public final class BoundariesTest extends Bounds {
         BoundsShapes.all();
         BoundsChecks.all();
         BoundsRest.all();
-        int missing = document().isEmpty() ? 0 : missingSentences();
+        int missing = document().isEmpty() ? 0 : missingParts();
         int wrong = wrongAnswers() + missing;
         System.out.println(wrong == 0 ? ALL.size() + " boundary cases are as due" : wrong + " answers are not as due");
         if (wrong != 0) {
@@ -22,52 +22,44 @@ public final class BoundariesTest extends Bounds {
         }
     }
 
-    /** Sentences of the promises and the terms that no test quotes. */
-    private static int missingSentences() {
-        Set<String> open = new TreeSet<>();
-        for (int promise = 1; promise <= 43; promise++) {
-            for (String sentence : sentences(promiseText(promise))) {
-                if (!isQuoted(sentence, promise)) {
-                    open.add("promise " + promise + ": " + sentence);
-                }
-            }
-        }
-        for (String sentence : sentences(terms())) {
-            if (!isQuoted(sentence, 0)) {
-                open.add("terms: " + sentence);
-            }
-        }
-        for (String sentence : open) {
-            System.out.println("no test quotes " + sentence);
-        }
-        return open.size();
-    }
-
-    /** The parts of a text between full stops, colons and semicolons that stand in no brackets. */
-    private static List<String> sentences(String text) {
-        List<String> all = new ArrayList<>();
-        int depth = 0;
-        int from = 0;
-        for (int i = 0; i < text.length(); i++) {
-            char sign = text.charAt(i);
-            depth += sign == '(' ? 1 : sign == ')' ? -1 : 0;
-            boolean behind = i + 1 == text.length() || text.charAt(i + 1) == ' ';
-            boolean dots = i > 0 && (text.charAt(i - 1) == '.' || text.charAt(i - 1) == ' ');
-            if (depth == 0 && behind && (sign == ';' || sign == '.' && !dots)) {
-                all.add(text.substring(from, i).trim());
-                from = i + 1;
-            }
-        }
-        return all;
-    }
-
-    private static boolean isQuoted(String sentence, int promise) {
+    /** Parts of the face, the terms, the constants and the promises that no test quotes. */
+    private static int missingParts() {
+        String text = document();
+        boolean[] held = new boolean[text.length()];
         for (Quoted q : ALL) {
-            boolean meant = promise == 0 || q.promise() == promise;
-            if (meant && (q.quote().contains(sentence) || sentence.contains(q.quote()))) {
-                return true;
+            hold(held, q.quote(), 0, before().length());
+            if (q.promise() > 0) {
+                hold(held, q.quote(), promiseStart(q.promise()), promiseEnd(q.promise()));
             }
         }
-        return false;
+        int many = missingIn(held, text.indexOf("public final class"), before().length());
+        for (int promise = 1; promise <= 43; promise++) {
+            many += missingIn(held, promiseStart(promise), promiseEnd(promise));
+        }
+        return many;
+    }
+
+    private static void hold(boolean[] held, String quote, int from, int to) {
+        for (int at = document().indexOf(quote, from); at >= 0 && at + quote.length() <= to;
+                at = document().indexOf(quote, at + 1)) {
+            Arrays.fill(held, at, at + quote.length(), true);
+        }
+    }
+
+    /** Says what stands unquoted, but for the few words that only join two quotes. */
+    private static int missingIn(boolean[] held, int from, int to) {
+        int many = 0;
+        int start = from;
+        for (int i = from; i <= to; i++) {
+            if (i == to || held[i]) {
+                String part = document().substring(start, i).trim();
+                if (part.replaceAll("[^A-Za-z]", "").length() > JOINING) {
+                    System.out.println("no test quotes " + part);
+                    many++;
+                }
+                start = i + 1;
+            }
+        }
+        return many;
     }
 }

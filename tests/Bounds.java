@@ -53,20 +53,33 @@ class Bounds {
 
     /** The words of one promise, without its heading and its call. */
     static String promiseText(int promise) {
-        int from = document().indexOf("## Promise " + promise + ":");
-        int call = document().indexOf("`: ", from);
-        return document().substring(call + 3, document().indexOf(" ## ", call));
+        return document().substring(promiseStart(promise), promiseEnd(promise));
     }
 
-    static String terms() {
-        return document().substring(document().indexOf("## Terms ") + 9, document().indexOf("The constants:"));
+    static int promiseStart(int promise) {
+        int heading = document().indexOf("## Promise " + promise + ":");
+        return document().indexOf("`: ", heading) + 3;
     }
 
+    static int promiseEnd(int promise) {
+        return document().indexOf(" ## ", promiseStart(promise));
+    }
+
+    /** What the document says before and between the promises: its first lines, the face, the terms, the constants. */
+    static String before() {
+        return document().substring(0, document().indexOf("## Promise 1:"));
+    }
+
+    private static String behind() {
+        return document().substring(document().indexOf("## Not promised"));
+    }
+
+    /** Promise 0 is all that the document says outside of its promises. */
     static void test(int promise, String quote, Runnable body) {
         here = "promise " + promise + " (\"" + quote + "\")";
         ALL.add(new Quoted(promise, quote));
-        boolean stands = document().isEmpty() || promiseText(promise).contains(quote) || terms().contains(quote)
-                || document().substring(0, document().indexOf("## The public face")).contains(quote);
+        boolean stands = document().isEmpty() || before().contains(quote)
+                || (promise == 0 ? behind() : promiseText(promise)).contains(quote);
         if (!stands) {
             fail("the document has no such sentence");
         }

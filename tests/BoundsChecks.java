@@ -108,7 +108,7 @@ final class BoundsChecks extends Bounds {
             b.hole(0, 2, 1, 0);
             shift(b, 1, 0, 1, 3);
         });
-        test(30, "all VIAS (moves between LAYERS of TRACES and WIRES)", () -> {
+        test(30, "HOLES wander: all VIAS (moves between LAYERS of TRACES and WIRES)", () -> {
             CopperBoard b = board(5, 5, 4, "s 1");
             b.pin(0, 2, 2, 0);
             b.pin(0, 2, 2, 3);
@@ -386,8 +386,8 @@ final class BoundsChecks extends Bounds {
     // ---- promise 37
 
     private static void pairCells() {
-        test(37, "0 how many CELLS with COPPER of the first have COPPER of the second on a neighbour north, east, south, west "
-                + "(in the LAYER)", () -> {
+        test(37, "PAIR of two NETS: 0 how many CELLS with COPPER of the first have COPPER of the second on a neighbour "
+                + "north, east, south, west (in the LAYER)", () -> {
             int[][] near = {{2, 1, 1}, {3, 2, 1}, {2, 3, 1}, {1, 2, 1}, {1, 1, 0}, {3, 3, 0}, {2, 0, 0}, {4, 2, 0}, {2, 2, 0}};
             for (int[] n : near) {
                 CopperBoard b = board(5, 5, 2, "s 1", "s 1");

@@ -74,6 +74,18 @@ final class BoundsCutting extends Bounds {
             due("two layers away", e.cut(0, 0), 1);
             due("its wall", e.cut(0, 2), 5);
         });
+        test(20, "CUT: 0 how many CELLS are REACHED, 1 its lowest PIN that is not (NONE: all are), 2 how many CELLS the WALL has, "
+                + "3 NETS with COPPER", () -> {
+            // Of the first column two cells are reached; the third is a keepout, the second column net 1's.
+            CopperBoard b = board(4, 3, 1, "s 1", "s 1");
+            pins(b, 0, 0, 0, 0, 1, 3, 0);
+            b.wire(1, 1, 0, 1, 2, 0);
+            keep(b, 0, 2, 0);
+            int[] want = {2, 2, 3, 2};
+            for (int what = 0; what < 4; what++) {
+                due("cut(0, " + what + ")", b.cut(0, what), want[what]);
+            }
+        });
         test(20, "1 its lowest PIN that is not (NONE: all are)", () -> {
             CopperBoard b = board(4, 4, 1, "s 1", "s 1");
             pins(b, 0, 0, 0);

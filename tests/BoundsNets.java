@@ -72,7 +72,7 @@ final class BoundsNets extends Bounds {
                 refused(Bounds::full, "a fifth pin of net " + n, b -> b.pin(n, 0, 4, 1));
             }
         });
-        test(8, "no two PINS of the board in one", () -> {
+        test(8, "each in a CELL; no two PINS of the board in one", () -> {
             CopperBoard b = board(3, 3, 2, "s 1", "s 1");
             due("a pin", b.pin(0, 1, 1, 0), 0);
             due("again", b.pin(0, 1, 1, 0), -1);
@@ -266,7 +266,7 @@ final class BoundsNets extends Bounds {
     // ---- promise 13
 
     private static void freeCells() {
-        test(13, "a CELL with COPPER of its own", () -> {
+        test(13, "FREE for a NET: a CELL with COPPER of its own", () -> {
             CopperBoard b = board(5, 3, 2, "l 0", "c 2");
             b.pin(0, 0, 0, 1);
             due("out of its layers", b.free(0, 0, 0, 1), 1);

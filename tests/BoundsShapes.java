@@ -481,7 +481,7 @@ final class BoundsShapes extends Bounds {
             d.pin(1, 2, 1, 0);
             due("net 1", d.spokes(1, 0), 3);
         });
-        test(28, "NONE: no such one.", () -> {
+        test(28, "SPOKES of a PIN. NONE: no such one.", () -> {
             int[][] bad = {{0, 2}, {0, -1}, {0, 4}, {0, MIN}, {0, MAX}, {3, 0}, {4, 0}, {-1, 0}, {8, 0}, {MIN, 0}, {MAX, 0}};
             for (int[] s : bad) {
                 refused(Bounds::rich, "spokes(" + s[0] + ", " + s[1] + ")", b -> b.spokes(s[0], s[1]));

@@ -3,7 +3,9 @@ import java.nio.file.Path;
 import java.util.ArrayList;
 import java.util.HashSet;
 import java.util.List;
+import java.util.Map;
 import java.util.Set;
+import java.util.TreeMap;
 import java.util.regex.Matcher;
 import java.util.regex.Pattern;
 
@@ -15,8 +17,11 @@ public final class LanguageTest {
         String text = Files.readString(Path.of("src/main/java/CopperBoard.java"));
         String bare = withoutComments(text);
         words(bare);
+        library(bare);
         methods(bare);
         classes(bare);
+        depths(bare);
+        makes(bare);
         System.out.println(wrong == 0 ? "the language is kept to" : wrong + " rules are not kept");
         if (wrong != 0) {
             System.exit(1);
@@ -52,6 +57,21 @@ public final class LanguageTest {
         }
         if (bare.split("\\bthrow\\b", -1).length != 2) {
             say("one throw is asked for, that of told");
+        }
+    }
+
+    /** Rule 4, as far as it is used: the functions of Math and Integer, and nothing of Long. */
+    private static void library(String bare) {
+        Matcher m = Pattern.compile("\\b(Math|Integer|Long)\\.(\\w+)").matcher(bare);
+        while (m.find()) {
+            if (!Set.of("Math.max", "Math.min", "Math.abs", "Integer.bitCount").contains(m.group())) {
+                say("not of the library: " + m.group());
+            }
+        }
+        for (char sign : bare.toCharArray()) {
+            if (sign > 126) {
+                say("a sign of the number " + (int) sign);
+            }
         }
     }
 
@@ -113,6 +133,58 @@ public final class LanguageTest {
             }
             if (fields > 20) {
                 say("fields: " + part.substring(0, 20));
+            }
+        }
+    }
+
+    /** The bodies of all methods by name; no two methods of the file share one. */
+    private static Map<String, String> bodies(String bare) {
+        Map<String, String> all = new TreeMap<>();
+        Matcher m = Pattern.compile("(?ms)^( *)(?:public |private )?(?:static )?(?:int|boolean|void|int\\[\\]) (\\w+)"
+                + "\\([^)]*\\)[^\n;]*\\{$(.*?)^\\1\\}$").matcher(bare);
+        while (m.find()) {
+            if (all.put(m.group(2), m.group(3)) != null) {
+                say("two methods named " + m.group(2));
+            }
+        }
+        return all;
+    }
+
+    /** Rule 11: calls that are no recursion go at most eight deep. */
+    private static void depths(String bare) {
+        Map<String, String> bodies = bodies(bare);
+        if (bodies.size() < 100) {
+            say("methods found: " + bodies.size());
+        }
+        for (String name : bodies.keySet()) {
+            int deep = depth(name, bodies, new ArrayList<>());
+            if (deep > 8) {
+                say("calls go " + deep + " deep from " + name);
+            }
+        }
+    }
+
+    private static int depth(String name, Map<String, String> bodies, List<String> open) {
+        if (open.contains(name)) {
+            return 0;
+        }
+        open.add(name);
+        int most = 0;
+        Matcher m = Pattern.compile("\\b(\\w+)\\(").matcher(bodies.get(name));
+        while (m.find()) {
+            if (bodies.containsKey(m.group(1))) {
+                most = Math.max(most, depth(m.group(1), bodies, open));
+            }
+        }
+        open.remove(name);
+        return most + 1;
+    }
+
+    /** Rows and objects are made in constructors alone, so that no number of calls fills the room. */
+    private static void makes(String bare) {
+        for (Map.Entry<String, String> method : bodies(bare).entrySet()) {
+            if (method.getValue().replace("throw new", "").contains("new ")) {
+                say("makes something: " + method.getKey());
             }
         }
     }

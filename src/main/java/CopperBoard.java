@@ -15,6 +15,8 @@ public final class CopperBoard {
     private static final int MOST_TURNS = 20;
     private static final int MOST_SHEET = 200;
     private static final int ALL_NETS = 255;
+    /** More than any number that the board counts up to. */
+    private static final int ENDLESS = 0x7fffffff;
 
     /** Moves, in the order of the document: north, east, south, west, below, above. */
     private static final int MOVES = 6;
@@ -247,7 +249,7 @@ public final class CopperBoard {
             return NONE;
         }
         nets.saveTraces();
-        int most = trail.bendOut(net, Integer.MAX_VALUE);
+        int most = trail.bendOut(net, ENDLESS);
         nets.restoreTraces();
         return most;
     }
@@ -256,7 +258,7 @@ public final class CopperBoard {
         if (!areNets(nets) || by < 0 || by > MOST_LENGTH) {
             return NONE;
         }
-        int least = Integer.MAX_VALUE;
+        int least = ENDLESS;
         int most = 0;
         for (int net = 0; net < this.nets.amount; net++) {
             if ((nets >> net & 1) != 0) {
@@ -1013,7 +1015,7 @@ public final class CopperBoard {
 
     /** Lays one net: the cheapest rows of moves, found from the goal backwards. */
     private static final class Router {
-        private static final int FAR = Integer.MAX_VALUE;
+        private static final int FAR = ENDLESS;
         /** A key is a cost and, below it, the number of moves; more of these than cells never come. */
         private static final int KEY_BITS = 11;
         private static final int MOST_LANES = 5;
@@ -1413,9 +1415,16 @@ public final class CopperBoard {
             return false;
         }
 
-        /** Sets of one size, the one with the lower net where two first differ first, come as i falls. */
-        private static int setOf(int i) {
-            return Integer.reverse(i) >>> 24;
+        /** The i-th set if it has so many nets, all of others; of one size those with lower nets come as i falls. */
+        private static int setAt(int i, int size, int others) {
+            if (Integer.bitCount(i) != size) {
+                return NONE;
+            }
+            int set = 0;
+            for (int net = 0; net < MOST_NETS; net++) {
+                set |= (i >> (MOST_NETS - 1 - net) & 1) << net;
+            }
+            return (set & ~others) == 0 ? set : NONE;
         }
 
         private int othersWithTraces(int net) {
@@ -1436,16 +1445,18 @@ public final class CopperBoard {
             int others = othersWithTraces(net);
             for (int size = 0; size <= Integer.bitCount(others); size++) {
                 for (int i = ALL_NETS; i >= 0; i--) {
-                    int gone = setOf(i);
-                    if (Integer.bitCount(gone) == size && (gone & ~others) == 0) {
-                        room.mark(gone);
-                        if (room.joinsAllPins(net, moves)) {
-                            return gone;
-                        }
+                    int gone = setAt(i, size, others);
+                    if (gone != NONE && joinsWithout(net, gone, moves)) {
+                        return gone;
                     }
                 }
             }
             return NONE;
+        }
+
+        private boolean joinsWithout(int net, int gone, int moves) {
+            room.mark(gone);
+            return room.joinsAllPins(net, moves);
         }
 
         int whyVias(int net) {
@@ -1462,8 +1473,8 @@ public final class CopperBoard {
             nets.saveTraces();
             for (int size = 0; size <= Integer.bitCount(others) && answer == NONE; size++) {
                 for (int i = ALL_NETS; i >= 0 && answer == NONE; i--) {
-                    int gone = setOf(i);
-                    if (Integer.bitCount(gone) == size && (gone & ~others) == 0 && layFlat(net, gone)) {
+                    int gone = setAt(i, size, others);
+                    if (gone != NONE && layFlat(net, gone)) {
                         answer = gone;
                     }
                 }
@@ -1485,8 +1496,8 @@ public final class CopperBoard {
             int others = (1 << nets.amount) - 1 & ~(1 << net);
             for (int size = 0; size <= MOST_LATE; size++) {
                 for (int i = ALL_NETS; i >= 0; i--) {
-                    int gone = setOf(i);
-                    if (Integer.bitCount(gone) == size && (gone & ~others) == 0 && layWith(net, gone)) {
+                    int gone = setAt(i, size, others);
+                    if (gone != NONE && layWith(net, gone)) {
                         return gone;
                     }
                 }
@@ -1999,7 +2010,10 @@ public final class CopperBoard {
             cells[0] = cell;
             for (int n = 0; n < grid.cells; n++) {
                 int ways = nets.traces[net * grid.cells + cell] & ~backwards;
-                int move = Integer.numberOfTrailingZeros(ways);
+                int move = 0;
+                while (move < MOVES && (ways >> move & 1) == 0) {
+                    move++;
+                }
                 if (move >= MOVES || grid.next[cell * MOVES + move] == NONE) {
                     return;
                 }
